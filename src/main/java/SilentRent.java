@@ -81,7 +81,7 @@ public final class SilentRent {
         }
         switch (what) {
             case 0: return built.price[r];
-            case 1: return now.dweller(r, built.tenants);
+            case 1: return now.dweller(r);
             case 2: return built.whoMeets(r);
             default: return BAD;
         }
@@ -121,7 +121,7 @@ public final class SilentRent {
         }
         int till = now.home[t];
         int next = r == -1 ? NONE : r;
-        if (till == next || (r != -1 && now.dweller(r, built.tenants) != NONE)) {
+        if (till == next || (r != -1 && now.dweller(r) != NONE)) {
             return STATE;
         }
         past.push(now);
@@ -210,7 +210,7 @@ public final class SilentRent {
     private int emptyRooms() {
         int bits = 0;
         for (int r = 0; r < built.rooms; r++) {
-            if (now.dweller(r, built.tenants) == NONE) {
+            if (now.dweller(r) == NONE) {
                 bits |= 1 << r;
             }
         }
@@ -320,7 +320,7 @@ public final class SilentRent {
         return share - now.debt[t];
     }
 
-    // Taken one by one, each group is over where what they lack comes to 0: so the best order tells the groups.
+    // A set that comes to 0 as a whole has one group more than the best of those that lack one of its tenants.
     private int mostGroups(int owing) {
         groups[0] = 0;
         for (int set = 1; set <= owing; set++) {
@@ -809,8 +809,8 @@ public final class SilentRent {
             System.arraycopy(other.debt, 0, debt, 0, MOST_TENANTS);
         }
 
-        int dweller(int r, int tenants) {
-            for (int t = 0; t < tenants && t < MOST_TENANTS; t++) {
+        int dweller(int r) {
+            for (int t = 0; t < MOST_TENANTS; t++) {
                 if (home[t] == r) {
                     return t;
                 }
@@ -994,9 +994,8 @@ public final class SilentRent {
                 int t = Integer.bitCount(taken);
                 // All have a room where t is no tenant any more: that is one way.
                 ways[taken] = t < house.tenants ? waysOn(t, taken) : 1;
+                reached[taken] = taken == 0;
             }
-            Arrays.fill(reached, false);
-            reached[0] = true;
             for (int taken = 0; taken < 1 << rooms; taken++) {
                 int t = Integer.bitCount(taken);
                 if (reached[taken] && t < house.tenants) {
@@ -1057,7 +1056,12 @@ public final class SilentRent {
 
         private int firstFrom(int t, int taken) {
             int good = goodRooms(t, taken);
-            return good == 0 ? NONE : Integer.numberOfTrailingZeros(good);
+            for (int r = 0; r < rooms; r++) {
+                if ((good >> r & 1) != 0) {
+                    return r;
+                }
+            }
+            return NONE;
         }
     }
 }

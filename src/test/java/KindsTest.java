@@ -6,6 +6,7 @@ public final class KindsTest {
     public static void main(String[] args) {
         marks();
         images();
+        imagesOfAllThatMayBeUndone();
         imagesKeepNothingElse();
         counts();
         due.end();
@@ -82,6 +83,23 @@ public final class KindsTest {
         due.is("keep(-1)", x.keep(-1), BAD);
         due.is("back(2)", x.back(2), BAD);
         due.is("back(-1)", x.back(-1), BAD);
+    }
+
+    private static void imagesOfAllThatMayBeUndone() {
+        SilentRent x = Due.told("t0 0 0 1;");
+        for (int h = 1; h <= 12; h++) {
+            x.talks(0, 1, 0);
+        }
+        x.keep(1);
+        for (int h = 13; h <= 24; h++) {
+            x.talks(0, 1, 0);
+        }
+        x.back(1);
+        for (int left = 9; left >= 0; left--) {
+            due.is("undo()", x.undo(), left);
+            due.is("talked", x.tenant(0, 5), 2 + left);
+        }
+        due.is("older ones are lost", x.undo(), STATE);
     }
 
     private static void imagesKeepNothingElse() {

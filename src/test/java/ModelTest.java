@@ -30,6 +30,8 @@ public final class ModelTest {
         for (int i = 0; i < CALLS; i++) {
             if (i == 0 || oneIn(80)) {
                 retell(run, x, m);
+            } else if (oneIn(60)) {
+                undoMany(run, x, m);
             } else {
                 // Debts and rooms first, so that the questions have something to tell.
                 call(run, x, m, i < 40 ? 5 + below(14) : below(42), wildRun && oneIn(3));
@@ -43,6 +45,17 @@ public final class ModelTest {
             due.is(run + ": type", x.type(text.charAt(i)), m.type(text.charAt(i)));
         }
         due.is(run + ": house() of '" + text + "'", x.house(), m.house());
+    }
+
+    private static void undoMany(int run, SilentRent x, Model m) {
+        for (int many = below(12); many > 0; many--) {
+            due.is(run + ": undo()", x.undo(), m.undo());
+            for (int t = 0; t < 6; t++) {
+                for (int what = 4; what <= 8; what++) {
+                    due.is(run + ": undone, tenant(" + t + ", " + what + ")", x.tenant(t, what), m.tenant(t, what));
+                }
+            }
+        }
     }
 
     private static String text() {
@@ -90,6 +103,14 @@ public final class ModelTest {
         return below(bound + 2) - 1;
     }
 
+    /** Mostly what he would lack in such a room, so that ways are left that fit. */
+    private static int lacks(Model m, int t, int r, int other) {
+        if (oneIn(5) || m.tenant(t, 0) < 0 || m.room(r, 0) < 0) {
+            return other;
+        }
+        return Math.max(0, m.room(r, 0) - (24 - m.tenant(t, 0) - m.tenant(t, 1)));
+    }
+
     private static void call(int run, SilentRent x, Model m, int which, boolean wild) {
         int t = some(6, wild);
         int u = some(6, wild);
@@ -123,7 +144,7 @@ public final class ModelTest {
             case 30: got = x.rounds(t); want = m.rounds(t); break;
             case 31: got = x.watch(bits); want = m.watch(bits); break;
             case 32: got = x.odds(what, t % 3); want = m.odds(what, t % 3); break;
-            case 33: got = x.book(t, what); want = m.book(t, what); break;
+            case 33: int lacks = lacks(m, t, u, what); got = x.book(t, lacks); want = m.book(t, lacks); break;
             case 34: got = x.burn(); want = m.burn(); break;
             case 35: got = x.fits(t); want = m.fits(t); break;
             case 36: got = x.may(t); want = m.may(t); break;

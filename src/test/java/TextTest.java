@@ -83,7 +83,14 @@ public final class TextTest {
         fault("x", 0);
         fault("rt 1;", 0);
         fault(" tt0 0 0 1;", 1);
+        fault("ra1;", 0);
+        fault("rz1;", 0);
+        fault("r1a;", 2);
         fault("R1;", 0);
+        fault("r`1;", 1);
+        fault("r{1;", 1);
+        fault("r/1;", 1);
+        fault("r:1;", 1);
         fault("r\t1;", 1);
         fault("r 1\n;", 3);
         fault("r-1;", 1);
