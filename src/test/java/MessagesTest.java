@@ -64,6 +64,9 @@ public final class MessagesTest {
         due.is("two chairs", y.watch(7), 3);
         due.is("not seen from any", y.watch(8), NONE);
         due.is("not seen from any", y.watch(15), NONE);
+        SilentRent z = Due.told(crowd(6) + "c1;c2;c4;c8;c48;");
+        due.is("five chairs", z.watch(63), 31);
+        due.is("four chairs", z.watch(15), 15);
         due.is("no chairs", Due.told(crowd(1)).watch(1), NONE);
         due.is("no chairs, nobody", Due.told(crowd(1)).watch(0), 0);
     }
