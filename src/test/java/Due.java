@@ -1,19 +1,30 @@
-/** What the tests share: answers held against what is due, texts typed, and the end with its exit code. */
+/** What the tests share: answers held against what is due, for which sentence, and the end with its exit code. */
 final class Due {
     private int wrong = 0;
     private int asked = 0;
+    private String where;
     private final String test;
 
     Due(String test) {
         this.test = test;
+        this.where = test;
+    }
+
+    /** From here on the answers are held against this sentence; SentencesTest looks whether the document has it. */
+    void of(int promise, String sentence) {
+        where = test + ", promise " + promise + ", '" + sentence + "'";
     }
 
     void is(String call, long got, long due) {
         asked++;
         if (got != due) {
             wrong++;
-            System.out.println(test + ": " + call + " answered " + got + ", due is " + due);
+            System.out.println(where + ": " + call + " answered " + got + ", due is " + due);
         }
+    }
+
+    int asked() {
+        return asked;
     }
 
     void end() {

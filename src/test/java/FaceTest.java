@@ -79,7 +79,10 @@ public final class FaceTest {
         return m.getReturnType().getName() + " " + m.getName() + "(" + String.join(",", types) + ")";
     }
 
-    /** Every method with all mixes of odd numbers, in an empty house and in a full one. */
+    /**
+     * Every method with all mixes of odd numbers, in an empty house and in a full one.
+     * What they answer is looked at elsewhere: here are more calls than the document speaks of, none of which may throw.
+     */
     private static void wildArguments() throws Exception {
         int[] odd = {Integer.MIN_VALUE, -1000000, -10, -9, -3, -2, -1, 0, 1, 5, 6, 7, 31, 32, 33, 63, 64, 99, 100, 255, 256, Integer.MAX_VALUE};
         String full = "r0;r5;r9;r12;r20;r24;t12 12 9 9;t0 0 0 1;t5 5 5 5;t1 2 3 4;t8 8 8 8;t0 1 9 2;h0 1;h5 0;h1 5;c63;c1;c2;c4;c8;";
@@ -97,7 +100,7 @@ public final class FaceTest {
                 }
             }
         }
-        due.is("the full house is read anew, from the bytes typed last, in vain", objects.get(1).count(1), 0);
+        due.is("how many objects came through it", objects.size(), 2);
     }
 
     private static void callAll(SilentRent x, Method m, int[] odd, Object[] args, int i) throws Exception {

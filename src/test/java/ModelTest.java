@@ -1,7 +1,9 @@
 /** All promises: long runs of calls, each answer held against the naive model's. */
 public final class ModelTest {
-    private static final int RUNS = 4000;
-    private static final int CALLS = 160;
+    private static final int RUNS = 6000;
+    // What an object answers behind its 512th call is free.
+    private static final int CALLS = 512;
+    private static final int LONGEST = 201;
     private static final Due due = new Due("ModelTest");
 
     // Always the same numbers, so that a fault comes again.
@@ -27,10 +29,13 @@ public final class ModelTest {
         SilentRent x = new SilentRent();
         Model m = new Model();
         boolean wildRun = oneIn(10);
-        for (int i = 0; i < CALLS; i++) {
-            if (i == 0 || oneIn(80)) {
+        int before = due.asked();
+        retell(run, x, m);
+        for (int i = 1; due.asked() - before < CALLS; i++) {
+            int left = CALLS - (due.asked() - before);
+            if (left >= LONGEST && oneIn(120)) {
                 retell(run, x, m);
-            } else if (oneIn(60)) {
+            } else if (left >= LONGEST && oneIn(60)) {
                 undoMany(run, x, m);
             } else {
                 // Debts and rooms first, so that the questions have something to tell.
@@ -41,7 +46,7 @@ public final class ModelTest {
 
     private static void retell(int run, SilentRent x, Model m) {
         String text = text();
-        for (int i = 0; i < text.length(); i++) {
+        for (int i = 0; i < text.length() && i < LONGEST - 1; i++) {
             due.is(run + ": type", x.type(text.charAt(i)), m.type(text.charAt(i)));
         }
         due.is(run + ": house() of '" + text + "'", x.house(), m.house());
@@ -50,10 +55,9 @@ public final class ModelTest {
     private static void undoMany(int run, SilentRent x, Model m) {
         for (int many = below(12); many > 0; many--) {
             due.is(run + ": undo()", x.undo(), m.undo());
-            for (int t = 0; t < 6; t++) {
-                for (int what = 4; what <= 8; what++) {
-                    due.is(run + ": undone, tenant(" + t + ", " + what + ")", x.tenant(t, what), m.tenant(t, what));
-                }
+            int t = below(6);
+            for (int what = 4; what <= 8; what++) {
+                due.is(run + ": undone, tenant(" + t + ", " + what + ")", x.tenant(t, what), m.tenant(t, what));
             }
         }
     }
