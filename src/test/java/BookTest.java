@@ -14,6 +14,7 @@ public final class BookTest {
         lackedAtTheEdges();
         theFirstWay();
         nothingFits();
+        houseAfterHouse();
         fitsRefused();
         roomsBySome();
         mayRefused();
@@ -197,6 +198,25 @@ public final class BookTest {
         due.is("nobody shares one", x.fits(-1), 0);
         due.is("fits(0)", x.fits(0), NONE);
         due.is("fits(1)", x.fits(1), NONE);
+    }
+
+    /** What was found out for one house has no weight in the next one. */
+    private static void houseAfterHouse() {
+        due.of(26, "FITS: t = -1 how many, else his ROOM in the first (NONE).");
+        SilentRent x = new SilentRent();
+        fitsAnew(x, "r1;r1;r1;r1;r1;r1;" + "t0 0 0 1;".repeat(6), 720, 0, 63);
+        fitsAnew(x, "r1;" + "t0 0 0 1;".repeat(6), 0, NONE, 0);
+        fitsAnew(x, "r1;r1;t0 0 0 1;", 2, 0, 3);
+        fitsAnew(x, "t0 0 0 1;", 0, NONE, 0);
+        fitsAnew(x, "r1;r1;r1;t0 0 0 1;t0 0 0 1;", 6, 0, 7);
+    }
+
+    private static void fitsAnew(SilentRent x, String text, int ways, int first, int some) {
+        Due.typed(x, text);
+        x.house();
+        due.is("anew " + text + " fits(-1)", x.fits(-1), ways);
+        due.is("anew " + text + " fits(0)", x.fits(0), first);
+        due.is("anew " + text + " may(0)", x.may(0), some);
     }
 
     private static void fitsRefused() {

@@ -61,6 +61,8 @@ public final class DebtsTest {
         due.of(17, "REST: the price (what = 0), how many are bought (1).");
         // He lacks 4 and buys for 6; the other one has 4 to sell for 3.
         rests("r10;r5;t8 10 0 6;t12 3 0 3;", 3, 4);
+        // The same, the seller first.
+        rests("r5;r10;t12 3 0 3;t8 10 0 6;", 3, 4);
         // Too few for sale: at 7 he buys no more.
         rests("r10;r5;t8 10 0 6;t12 4 0 3;", 7, 0);
         // For sale for more than he buys for.
@@ -200,6 +202,9 @@ public final class DebtsTest {
         due.is("two groups of three", owing(0, 7, 11, 4, 4, 10).payments(), 4);
         due.is("six in one group", owing(12, 0, 0, 0, 0, 0).payments(), 5);
         due.is("a pair, a group of four", owing(1, 2, 3, 9, 9, 6).payments(), 4);
+        // Two who lack one hour each are no group, nor are two who have one too many.
+        due.is("two give one each", owing(4, 4, 7).payments(), 2);
+        due.is("two get one each", owing(6, 6, 3).payments(), 2);
         // Pairs that are not side by side.
         due.is("first and last", owing(0, 5, 5, 5, 5, 10).payments(), 1);
         due.is("crosswise", owing(1, 2, 3, 7, 8, 9).payments(), 3);

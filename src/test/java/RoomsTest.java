@@ -11,6 +11,7 @@ public final class RoomsTest {
         theFirst();
         roomsThatTheyMeet();
         sixOfEach();
+        houseAfterHouse();
         nothingIsChanged();
         housedRefused();
         crowds();
@@ -130,6 +131,28 @@ public final class RoomsTest {
         x.watch(15);
         x.crowd();
         x.payments();
+    }
+
+    /** What was found out for one house has no weight in the next one. */
+    private static void houseAfterHouse() {
+        due.of(14, "HOUSED: t = -1 how many, -2 PRICES, else his ROOM (NONE).");
+        SilentRent x = new SilentRent();
+        housedAnew(x, "r24;r24;r24;t0 0 0 1;t0 0 0 1;t0 0 0 1;", 3, 72, 0);
+        housedAnew(x, "r1;r2;t0 0 0 1;t12 12 0 1;", 1, 2, 1);
+        housedAnew(x, "r9;r9;r9;t12 0 0 1;", 1, 9, 0);
+        housedAnew(x, "r24;t12 0 0 1;", 0, 0, NONE);
+        housedAnew(x, "t12 0 0 1;", 0, 0, NONE);
+        housedAnew(x, "r5;t12 0 0 1;t0 0 0 1;", 1, 5, 0);
+        housedAnew(x, "r5;t12 12 0 1;t0 0 0 1;", 1, 5, NONE);
+        housedAnew(x, "r0;r3;r0;t12 12 0 1;t12 9 0 1;t12 12 0 1;", 3, 3, 0);
+    }
+
+    private static void housedAnew(SilentRent x, String text, int many, int prices, int first) {
+        Due.typed(x, text);
+        x.house();
+        due.is("anew " + text + " housed(-1)", x.housed(-1), many);
+        due.is("anew " + text + " housed(-2)", x.housed(-2), prices);
+        due.is("anew " + text + " housed(0)", x.housed(0), first);
     }
 
     private static void housedRefused() {

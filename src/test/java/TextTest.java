@@ -359,6 +359,8 @@ public final class TextTest {
         fault("a1;", 0);
         fault("z1;", 0);
         fault("ra1;", 0);
+        fault("rz1;", 0);
+        fault("zr1;", 0);
         fault("az1;", 0);
         fault("r1a;", 2);
         fault("r1z;", 2);
@@ -478,14 +480,22 @@ public final class TextTest {
 
     private static void readAnew() {
         due.of(4, "(Read anew: as told, nobody LIVES in a ROOM, DEBTS, DAY 0, THE BOOK empty, nothing to be UNDONE, IMAGES are gone.)");
-        String text = "r1;r2;t1 1 1 1;t2 2 2 2;h0 1;c3;";
+        readAnew("r1;r2;t1 1 1 1;t2 2 2 2;h0 1;c3;", 6);
+        readAnew(Stories.FULL_HOUSE, 24);
+        twins.alike("read anew as nothing", Stories.NOTHING, y -> {
+            Stories.AT_ITS_LIMITS.tell(y);
+            y.house();
+        });
+    }
+
+    private static void readAnew(String text, int items) {
         for (Twins.Story ahead : new Twins.Story[] {Stories.BUSY, Stories.AT_ITS_LIMITS}) {
             SilentRent x = new SilentRent();
             ahead.tell(x);
             long trace = x.trace();
             x.clear();
             Due.typed(x, text);
-            due.is("house()", x.house(), 6);
+            due.is("house()", x.house(), items);
             due.is("the trace goes on", x.trace(), trace);
             // Marks that bring the trace of the one told at once to the same number.
             twins.alike("as if told at once", y -> {
@@ -501,16 +511,12 @@ public final class TextTest {
                 y.house();
             });
         }
-        twins.alike("read anew as nothing", Stories.NOTHING, y -> {
-            Stories.AT_ITS_LIMITS.tell(y);
-            y.house();
-        });
     }
 
     /** The rows of an older text, also of one with a fault, don't shine through. */
     private static void nothingIsLeftOfAnOlderText() {
         due.of(4, "(Read anew: as told, nobody LIVES in a ROOM, DEBTS, DAY 0, THE BOOK empty, nothing to be UNDONE, IMAGES are gone.)");
-        String text = "t0 0 0 1;".repeat(6) + "c1;c2;r3;";
+        String text = "t0 0 0 1;".repeat(6) + "c1;c2;r3;r4;";
         Twins.Story atOnce = y -> {
             Due.typed(y, text);
             y.house();
@@ -524,6 +530,19 @@ public final class TextTest {
             Due.typed(y, Stories.FULL_HOUSE);
             y.house();
             y.house();
+            atOnce.tell(y);
+        });
+        twins.alike("after some days, and a text of one tenant", atOnce, y -> {
+            Due.typed(y, "r5;t0 0 0 1;t12 0 9 1;");
+            y.house();
+            y.moves(1, 0);
+            y.talks(0, 9, 1);
+            y.evening();
+            y.talks(0, 9, 1);
+            y.keep(0);
+            Due.typed(y, "t0 0 0 1;");
+            y.house();
+            y.talks(0, 1, 0);
             atOnce.tell(y);
         });
         twins.alike("after a fuller text with a fault", atOnce, y -> {
