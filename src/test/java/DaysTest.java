@@ -530,6 +530,18 @@ public final class DaysTest {
         due.is("no room is empty", y.now(3), 0);
         // PRICES 12 14 5 20 0 24, met up to 14 10 8 16 0 24.
         due.is("who does not meet his", y.now(4), 10);
+        // More tenants than rooms, more rooms than tenants.
+        SilentRent few = Due.told("r24;t0 0 0 1;t0 0 0 1;t12 0 0 1;");
+        few.moves(2, 0);
+        due.is("the last one of three lives in the only room", few.now(2), 4);
+        due.is("no room is empty", few.now(3), 0);
+        due.is("the last one does not meet it", few.now(4), 4);
+        SilentRent many = Due.told("r1;r2;r3;r4;r5;r24;t0 1 0 1;");
+        due.is("six empty rooms", many.now(3), 63);
+        many.moves(0, 5);
+        due.is("the only one lives in the last room", many.now(2), 1);
+        due.is("five empty rooms", many.now(3), 31);
+        due.is("he does not meet it", many.now(4), 1);
         // One hour lacks to the price, none lacks, one is more.
         SilentRent z = Due.told("r13;r12;r11;t12 0 0 1;t12 0 0 1;t12 0 0 1;");
         for (int t = 0; t < 3; t++) {

@@ -9,6 +9,7 @@ public final class DebtsTest {
         spare();
         rest();
         restAtTheEdges();
+        restOfTheLast();
         restRefused();
         shares();
         payments();
@@ -107,6 +108,19 @@ public final class DebtsTest {
         due.is("both live there", x.rest(1), 24);
     }
 
+    /** More tenants than rooms: the last ones live in them. */
+    private static void restOfTheLast() {
+        due.of(17, "REST: the price (what = 0), how many are bought (1).");
+        SilentRent x = Due.told("r10;r5;t0 0 0 1;t0 0 0 1;t8 10 0 6;t12 3 0 3;");
+        x.moves(2, 0);
+        due.is("spare(2)", x.spare(2), -4);
+        due.is("nobody sells", x.rest(0), 7);
+        x.moves(3, 1);
+        due.is("spare(3)", x.spare(3), 4);
+        due.is("rest(0)", x.rest(0), 3);
+        due.is("rest(1)", x.rest(1), 4);
+    }
+
     private static void restRefused() {
         due.of(17, "BAD.");
         for (int no : new int[] {Integer.MIN_VALUE, -9, -2, -1, 2, 3, 10, 256, Integer.MAX_VALUE}) {
@@ -178,6 +192,12 @@ public final class DebtsTest {
         due.is("three pairs", owing(2, 8, 6, 4, 1, 9).payments(), 3);
         due.is("from all to one", owing(12, 0, 0, 0, 0, 0).payments(), 5);
         due.is("hundreds at once", manyDays(), 1);
+        // More tenants than rooms: 18 hours are the last one's, 3 are each one's share.
+        SilentRent x = Due.told("r24;r13;t12 0 0 1;t12 0 0 1;t12 0 0 1;t12 0 0 1;t12 0 0 1;t6 0 0 1;");
+        x.moves(5, 0);
+        x.talks(5, 12, 5);
+        due.is("the last one owes", x.evening(), 18);
+        due.is("all others have a share", x.payments(), 5);
     }
 
     /** One of two who owes 24 hours a day for 99 days. */
@@ -202,15 +222,26 @@ public final class DebtsTest {
         due.is("two groups of three", owing(0, 7, 11, 4, 4, 10).payments(), 4);
         due.is("six in one group", owing(12, 0, 0, 0, 0, 0).payments(), 5);
         due.is("a pair, a group of four", owing(1, 2, 3, 9, 9, 6).payments(), 4);
+        // One room alone: he who lives there owed all, the others lent.
+        SilentRent x = Due.told("r24;" + "t12 0 0 1;".repeat(6));
+        x.moves(0, 0);
+        x.evening();
+        x.talks(0, 6, 0);
+        due.is("all debts", x.evening(), 30);
+        int[] lent = {0, 8, 6, 4, 1, 9};
+        for (int t = 1; t < 6; t++) {
+            x.lends(t, 0, lent[t]);
+        }
+        due.is("three pairs, 2 and 8, 6 and 4, 1 and 9", x.payments(), 3);
         // Two who lack one hour each are no group, nor are two who have one too many.
         due.is("two give one each", owing(4, 4, 7).payments(), 2);
         due.is("two get one each", owing(6, 6, 3).payments(), 2);
         // Pairs that are not side by side.
         due.is("first and last", owing(0, 5, 5, 5, 5, 10).payments(), 1);
         due.is("crosswise", owing(1, 2, 3, 7, 8, 9).payments(), 3);
-        SilentRent x = owing(4, 6);
-        x.payments();
-        due.is("nothing is changed", x.tenant(0, 7), 4);
+        SilentRent y = owing(4, 6);
+        y.payments();
+        due.is("nothing is changed", y.tenant(0, 7), 4);
     }
 
     private static void settled() {

@@ -186,6 +186,15 @@ public final class KindsTest {
             due.is("what may be undone", x.count(4), 10);
             due.is("undo()", x.undo(), 9);
             due.is("talked", x.tenant(0, 5), 23);
+            // One more than the ten that an image brings back: its oldest is lost.
+            x.back(0);
+            x.evening();
+            due.is("what may be undone", x.count(4), 10);
+            for (int left = 9; left >= 0; left--) {
+                due.is("undo()", x.undo(), left);
+                due.is("talked", x.tenant(0, 5), 15 + left);
+            }
+            due.is("older ones are lost", x.undo(), STATE);
         }
     }
 

@@ -197,6 +197,10 @@ public final class MessagesTest {
         odds(x, 0, 0, 1);
         odds(x, 3, 0, 1);
         odds(x, 10, 0, 1);
+        // More tenants than rooms: the last one lives in the only one.
+        SilentRent last = Due.told("r12;t12 0 0 1;t12 0 0 1;t12 0 0 1;");
+        last.moves(2, 0);
+        odds(last, 3, 7, 10);
         // Who says more than his FREE hours meets no price, not even 0.
         SilentRent y = Due.told("r0;t12 12 0 1;");
         y.moves(0, 0);
