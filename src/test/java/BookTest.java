@@ -17,6 +17,7 @@ public final class BookTest {
         houseAfterHouse();
         fitsRefused();
         roomsBySome();
+        everyOrder();
         mayRefused();
         due.end();
     }
@@ -263,6 +264,42 @@ public final class BookTest {
         due.is("the last of six", six.may(5), 63);
         due.is("more tenants than rooms", Due.told("r5;t0 0 0 1;t0 0 0 1;").may(0), 0);
         due.is("no rooms", Due.told("t0 0 0 1;").may(0), 0);
+    }
+
+    /** Six who lacked six prices in all orders; of two of them nothing is told: they have the two rooms left, by turns. */
+    private static void everyOrder() {
+        due.of(27, "ROOMS in which he is by some (bits).");
+        for (int[] room : Orders.of(6)) {
+            StringBuilder b = new StringBuilder();
+            for (int r = 0; r < 6; r++) {
+                b.append("r").append(19 + r).append(";t12 12 0 1;");
+            }
+            // Two of the six are let out, another pair in the next order.
+            int one = room[0];
+            int other = room[1];
+            SilentRent x = Due.told(b.toString());
+            for (int t = 0; t < 6; t++) {
+                if (t != one && t != other) {
+                    x.book(t, 19 + room[t]);
+                }
+            }
+            int left = 1 << room[one] | 1 << room[other];
+            int least = Math.min(room[one], room[other]);
+            int most = Math.max(room[one], room[other]);
+            due.is("two ways", x.fits(-1), 2);
+            for (int t = 0; t < 6; t++) {
+                boolean free = t == one || t == other;
+                due.is("may(" + t + ")", x.may(t), free ? left : 1 << room[t]);
+                int first = t == Math.min(one, other) ? least : most;
+                due.is("fits(" + t + ")", x.fits(t), free ? first : room[t]);
+            }
+            x.book(one, 19 + room[one]);
+            due.is("one way", x.fits(-1), 1);
+            due.is("where he was", x.may(other), 1 << room[other]);
+            due.is("where he was", x.fits(other), room[other]);
+            due.is("the last line", x.book(other, 19 + room[other]), 6);
+            due.is("nothing new", x.fits(-1), 1);
+        }
     }
 
     private static void mayRefused() {

@@ -20,8 +20,10 @@ public final class DaysTest {
         loans();
         loansRefused();
         mostDebt();
+        mostDebtByAnEvening();
         undone();
         eachKindIsUndone();
+        allSixAreAsAhead();
         tenAreKnown();
         refusedIsNotKnown();
         now();
@@ -339,10 +341,7 @@ public final class DaysTest {
         twins.refused("nobody", Stories.NOTHING, y -> y.lends(0, 1, 1), BAD);
     }
 
-    /**
-     * As much DEBT as one may have, in 508 of an object's 512 calls: 85 of them for the house.
-     * An evening that would bring a DEBT above 9999 can't be had: 512 calls lead up to it, it would be the 513th.
-     */
+    /** As much DEBT as a loan may bring, in 508 of an object's 512 calls: 85 of them for the house. */
     private static void mostDebt() {
         due.of(11, "the lender would have above 9999.");
         SilentRent x = Due.told("r24;".repeat(6) + "t12 0 0 1;".repeat(6));
@@ -370,6 +369,65 @@ public final class DaysTest {
         due.is("his debt is as it was", x.tenant(0, 7), 9999);
         due.is("undone is the loan ahead of that", x.undo(), 9);
         due.is("call 512: his debt without it", x.tenant(0, 7), 9900);
+    }
+
+    /** As much DEBT as an evening may leave: it is an object's 511th call, one more is left to look at it. */
+    private static void mostDebtByAnEvening() {
+        due.of(10, "(DEBT 0 at first, 9999 at most.)");
+        int[] notLent = {0, 7, 8, 9, 10};
+        int[] ahead = {9984, 9977, 9976, 9975, 9974};
+        int[] behind = {9999, 9999, 9999, 9999, 9998};
+        for (int i = 0; i < notLent.length; i++) {
+            // The second one lacks 9 hours, the four others 12; the last of them has what was not lent, too.
+            int all = behind[i] + 9 + 4 * 12 + notLent[i];
+            String what = ahead[i] + " and 24 hours more";
+            due.is(what + ", all debts", lastEvening(notLent[i], ahead[i], all).now(1), all);
+            due.is(what + ", tenant(0, 7)", lastEvening(notLent[i], ahead[i], all).tenant(0, 7), behind[i]);
+            due.is(what + ", tenant(5, 7)", lastEvening(notLent[i], ahead[i], all).tenant(5, 7), 12 + notLent[i]);
+            due.is(what + ", mark(3, 0)", lastEvening(notLent[i], ahead[i], all).mark(3, 0), 2 * behind[i]);
+        }
+        due.is("it may be undone", lastEvening(0, 9984, 10056).undo(), 9);
+        due.is("it was the last one", lastEvening(0, 9984, 10056).evening(), STATE);
+    }
+
+    /** An object behind its 511th call: 98 days, all debts but a few hours lent to the first one, an evening more. */
+    private static SilentRent lastEvening(int notLent, int ahead, int all) {
+        String text = "r24;".repeat(6) + "t9 0 0 1;".repeat(2) + "t12 0 0 1;".repeat(4);
+        SilentRent x = Due.told(text);
+        int calls = text.length() + 1;
+        for (int t = 0; t < 6; t++) {
+            x.moves(t, t);
+            calls++;
+        }
+        int[] owes = new int[6];
+        for (int day = 0; day < 98; day++) {
+            for (int t = 0; t < 6; t++) {
+                // Who pays for all his hours lacks 24, the others lack 12.
+                boolean pays = t < 2 || (t == 2 && day < 48);
+                if (pays) {
+                    x.talks(t, t < 2 ? 15 : 12, t);
+                    calls++;
+                }
+                owes[t] += pays ? 24 : 12;
+            }
+            x.evening();
+            calls++;
+        }
+        for (int t = 1; t < 6; t++) {
+            int left = t == 5 ? notLent : 0;
+            while (owes[t] > left) {
+                int h = Math.min(99, owes[t] - left);
+                owes[t] -= h;
+                owes[0] += h;
+                due.is("a loan", x.lends(0, t, h), owes[0]);
+                calls++;
+            }
+        }
+        due.is("what the first one owes", owes[0], ahead);
+        x.talks(0, 15, 0);
+        due.is("all debts, the evening of day 98", x.evening(), all);
+        due.is("calls", calls + 2, 511);
+        return x;
     }
 
     private static void undone() {
@@ -447,6 +505,38 @@ public final class DaysTest {
                 y.undo();
             }
         });
+    }
+
+    private static void allSixAreAsAhead() {
+        due.of(12, "all is as ahead of it.");
+        SilentRent ahead = new SilentRent();
+        Stories.SIX.tell(ahead);
+        Stories.asSix(due, "nothing to undo yet", ahead);
+        sixUndone("an evening", SilentRent::evening);
+        for (int t = 0; t < 6; t++) {
+            int who = t;
+            sixUndone("a move out", y -> y.moves(who, -1));
+            sixUndone("a talk", y -> y.talks(who, 6, who));
+            sixUndone("a talk that another one pays for", y -> y.talks(0, 11, who));
+            sixUndone("a loan of a neighbour", y -> y.lends((who + 1) % 6, who, 13));
+        }
+    }
+
+    /** The change once and undone, then with nine more behind it and all ten undone. */
+    private static void sixUndone(String what, Twins.Call change) {
+        SilentRent x = new SilentRent();
+        Stories.SIX.tell(x);
+        due.is(what + " may be", change.on(x) >= 0 ? 1 : 0, 1);
+        due.is(what + " is undone", x.undo(), 9);
+        Stories.asSix(due, what + " undone", x);
+        change.on(x);
+        for (int i = 0; i < 9; i++) {
+            x.evening();
+        }
+        for (int left = 9; left >= 0; left--) {
+            due.is(what + " and nine evenings are undone", x.undo(), left);
+        }
+        Stories.asSix(due, what + " and nine evenings undone", x);
     }
 
     private static void tenAreKnown() {

@@ -10,6 +10,7 @@ public final class KindsTest {
         marksAtTheEdges();
         marksRefused();
         kept();
+        allSixAreKept();
         keptOver();
         allThatMayBeUndone();
         imagesKeepNothingElse();
@@ -128,6 +129,40 @@ public final class KindsTest {
         nobody.evening();
         due.is("back to it", nobody.back(1), 0);
         due.is("nothing may be undone", nobody.undo(), STATE);
+    }
+
+    private static void allSixAreKept() {
+        due.of(30, "IMAGES 0, 1 keep NOW (who LIVES where, TALKED, PAYS, DEBTS, the DAY, what may be UNDONE);");
+        for (int image = 0; image < 2; image++) {
+            SilentRent x = new SilentRent();
+            Stories.SIX.tell(x);
+            x.keep(image);
+            allElse(x);
+            due.is("back", x.back(image), 1);
+            Stories.asSix(due, "back", x);
+            // The way back from a move of the last one is kept, too.
+            x.moves(5, -1);
+            x.keep(image);
+            allElse(x);
+            x.back(image);
+            due.is("back, and the move is undone", x.undo(), 9);
+            Stories.asSix(due, "back, and the move is undone", x);
+        }
+    }
+
+    /** All six live, talk, pay and owe otherwise then. */
+    private static void allElse(SilentRent x) {
+        for (int t = 0; t < 6; t++) {
+            x.moves(t, -1);
+            x.lends((t + 1) % 6, t, 3 + t);
+        }
+        for (int t = 0; t < 6; t++) {
+            x.moves(t, t);
+        }
+        x.evening();
+        for (int t = 0; t < 6; t++) {
+            x.talks(t, 12, t);
+        }
     }
 
     private static void keptOver() {

@@ -11,6 +11,7 @@ public final class RoomsTest {
         theFirst();
         roomsThatTheyMeet();
         sixOfEach();
+        everyOrder();
         houseAfterHouse();
         nothingIsChanged();
         housedRefused();
@@ -74,6 +75,9 @@ public final class RoomsTest {
         // The first has none only where he must have none.
         housed("r7;t12 12 0 1;t0 0 0 1;t0 0 0 1;", 1, 7, NONE, 0, NONE);
         housed("r3;r9;t12 9 0 1;t12 9 0 1;t12 3 0 1;", 2, 12, 0, NONE, 1);
+        // One without a room in the midst, where the rooms that are taken are not the least ones.
+        housed("r3;r0;t12 11 0 1;t12 11 0 1;t12 9 0 1;", 2, 3, 1, NONE, 0);
+        housed("r1;r3;t12 7 0 1;t12 11 0 1;t12 8 0 1;", 2, 4, 0, NONE, 1);
         // The last rooms, where the lesser ones cost less.
         housed("r1;r1;r2;r2;t0 0 0 1;t0 0 0 1;", 2, 4, 2, 3);
     }
@@ -95,6 +99,23 @@ public final class RoomsTest {
         housed("r24;".repeat(6) + "t0 0 0 1;".repeat(5), 5, 120, 0, 1, 2, 3, 4);
         housed("r24;".repeat(6) + "t0 1 0 1;".repeat(6), 0, 0, NONE, NONE, NONE, NONE, NONE, NONE);
         housed("r7;r8;r9;r10;r11;r12;t12 0 0 1;t12 1 0 1;t12 2 0 1;t12 3 0 1;t12 4 0 1;t12 5 0 1;", 6, 57, 5, 4, 3, 2, 1, 0);
+    }
+
+    /** Six prices in all orders: he who meets the least of them alone must have that one, and so on. */
+    private static void everyOrder() {
+        due.of(14, "of several ways the first (TENANT by TENANT the lesser ROOM, none behind all): the ROOM of a TENANT.");
+        for (int[] price : Orders.of(6)) {
+            StringBuilder b = new StringBuilder();
+            for (int r = 0; r < 6; r++) {
+                b.append('r').append(price[r]).append(';');
+            }
+            int[] rooms = new int[6];
+            for (int t = 0; t < 6; t++) {
+                b.append("t12 ").append(12 - t).append(" 0 1;");
+                rooms[t] = Orders.place(price, 6, t);
+            }
+            housed(b.toString(), 6, 15, rooms);
+        }
     }
 
     private static void nothingIsChanged() {

@@ -37,7 +37,7 @@ final class Stories {
         Due.typed(x, "r9;t1 1 1 1;c");
     };
 
-    /** Whatever has a limit is at it, but for the debts: rooms, tenants, chairs, days, lines, bytes, what may be undone. */
+    /** Whatever has a limit is at it, but for the debts: rooms, tenants, chairs, days, lines, what may be undone. */
     static final Twins.Story AT_ITS_LIMITS = x -> {
         Due.typed(x, FULL_HOUSE);
         x.house();
@@ -54,11 +54,37 @@ final class Stories {
         x.keep(1);
     };
 
-    /** The same, with a text as long as can be. */
+    /** A text as long as can be; nobody, no rooms yet. */
     static final Twins.Story FULL_TEXT = x -> {
         String head = "r9;t1 1 1 1;c1;";
         Due.typed(x, head + " ".repeat(200 - head.length()));
     };
+
+    /** Six who each have something of their own, in the midst of day 1: where they live, what they talked, pay and owe. */
+    static final Twins.Story SIX = x -> {
+        Due.typed(x, "r24;r24;r24;r24;r24;r24;t12 0 4 1;t12 0 5 1;t12 0 6 1;t12 0 7 1;t12 0 8 1;t12 0 9 1;");
+        x.house();
+        for (int t = 0; t < 6; t++) {
+            x.moves(t, 5 - t);
+            x.talks(t, t + 1, t);
+        }
+        x.evening();
+        for (int t = 0; t < 6; t++) {
+            x.talks(t, t + 1, t < 5 ? t + 1 : t);
+        }
+    };
+
+    private static final int[][] OF_SIX = {{5, 4, 3, 2, 1, 0}, {1, 2, 3, 4, 5, 6}, {0, 1, 2, 3, 4, 11}, {13, 14, 15, 16, 17, 18}};
+
+    /** Whether all is as the story of the six left it. */
+    static void asSix(Due due, String what, SilentRent x) {
+        for (int t = 0; t < 6; t++) {
+            for (int i = 0; i < OF_SIX.length; i++) {
+                due.is(what + ", tenant(" + t + ", " + (4 + i) + ")", x.tenant(t, 4 + i), OF_SIX[i][t]);
+            }
+        }
+        due.is(what + ", the day", x.now(0), 1);
+    }
 
     private Stories() {
     }

@@ -249,6 +249,10 @@ public final class TextTest {
         fault("h;", 1);
         fault("c;", 1);
         fault("c1 1;", 3);
+        // No number stands for letters, though c has the number 99.
+        fault("99 1;", 0);
+        fault("c1;99 1;", 3);
+        fault("99;", 0);
     }
 
     /** One number of an item: the least and the most that it may be, just outside, and numbers that wrap around to it. */
