@@ -549,6 +549,17 @@ public final class TextTest {
             y.talks(0, 1, 0);
             atOnce.tell(y);
         });
+        // What was read last ahead of a fault begins no item of the next text.
+        for (String older : new String[] {"r", "t", "h", "c", "c5;r"}) {
+            for (String newer : new String[] {"5;", "100 5;", "00 5;", ";", "! 5;", "rr 5;", "99 5;"}) {
+                SilentRent x = new SilentRent();
+                Due.typed(x, older);
+                due.is("house() of '" + older + "'", x.house(), -10 - older.length());
+                x.clear();
+                Due.typed(x, newer);
+                due.is("house() of '" + newer + "' behind that", x.house(), -10);
+            }
+        }
         twins.alike("after a fuller text with a fault", atOnce, y -> {
             Due.typed(y, Stories.FULL_HOUSE + "x");
             y.house();
